@@ -13,7 +13,7 @@ public final class HayRemembers {
     private static final int MOST_CUTS = 24, MOST_WINTERS = 30, MOST_HOURS = 99, MOST_SOLD = 4;
     private static final int WAY = 0, FORCE = 1, MARK = 2, AGE = 3, COLD = 4, STAND = 5, DAY = 6, DOOR = 7, HEIGHT = 8;
     private static final int OLDEST = 99;
-    private static final int BYTES = 0, SHORTS = 1;
+    private static final int BYTES = 0, SHORTS = 1, INTS = 2, LONGS = 3, BOOLEANS = 4;
     private static final int LAID = 0, CUT = 1, BLOWN = 2, DOORS = 3, DAYS = 4;
 
     private final Law law = new Law();
@@ -291,7 +291,7 @@ public final class HayRemembers {
         if (what == 0) {
             return Integer.bitCount(forces);
         }
-        return forces == 0 ? NOT : 31 - Integer.numberOfLeadingZeros(forces);
+        return greatestOf(forces);
     }
 
     public int hours(int rl, int n) {
@@ -440,7 +440,7 @@ public final class HayRemembers {
 
     public int row(int shelf, int sort, int n) {
         Shelf on = shelfAt(shelf);
-        if (on == null || sort < 0 || sort > MOST_SOLD || n > Shelf.LONGEST) {
+        if (on == null || sort < 0 || sort > BOOLEANS || n > Shelf.LONGEST) {
             return BAD;
         }
         if (n < 0) {
@@ -603,6 +603,15 @@ public final class HayRemembers {
             sum.add(way, -kept);
         }
         return bits;
+    }
+
+    private static int greatestOf(int forces) {
+        for (int force = 9; force >= 1; force--) {
+            if ((forces >> force & 1) != 0) {
+                return force;
+            }
+        }
+        return NOT;
     }
 
     /** The ways of its top layer by which a rick would stand, as bits. */
@@ -1468,6 +1477,8 @@ public final class HayRemembers {
         private static final int BUILDER = 0, COW = 1, KNIFE = 2, CUCKOO = 3, LEE = 4, LADY = 5, RAKE = 6, CHILD = 7;
         private static final int[] ABOVE = {-1, BUILDER, BUILDER, KNIFE, COW, CUCKOO, BUILDER, RAKE};
         private static final int TRACED = 24;
+        // the deepest act, a lady's tells, goes six deep
+        private static final int DEEPEST = 16;
 
         private final int[] kinds = new int[BODIES];
         private int bodies;
@@ -1520,10 +1531,10 @@ public final class HayRemembers {
             own = kindOf(body);
             number = body;
             switch (which) {
-                case 0: return laysFrom(own, x);
-                case 1: return leansFrom(own, x);
-                case 2: return cutsFrom(own, x);
-                case 3: return tellsFrom(own, x);
+                case 0: return laysFrom(own, x, 0);
+                case 1: return leansFrom(own, x, 0);
+                case 2: return cutsFrom(own, x, 0);
+                case 3: return tellsFrom(own, x, 0);
                 default: return 0;
             }
         }
@@ -1535,67 +1546,79 @@ public final class HayRemembers {
             runs++;
         }
 
-        private int laysFrom(int kind, int x) {
+        private int laysFrom(int kind, int x, int depth) {
+            if (depth >= DEEPEST) {
+                return 0;
+            }
             switch (kind) {
                 case COW:
                 case LEE:
                     begins(20);
-                    return laysFrom(BUILDER, x) + 3;
+                    return laysFrom(BUILDER, x, depth + 1) + 3;
                 case RAKE:
                     begins(70);
-                    return laysFrom(BUILDER, x) * 2;
+                    return laysFrom(BUILDER, x, depth + 1) * 2;
                 case CHILD:
                     begins(81);
-                    return laysFrom(RAKE, x) - 1;
+                    return laysFrom(RAKE, x, depth + 1) - 1;
                 default:
                     begins(1);
                     return x + number;
             }
         }
 
-        private int leansFrom(int kind, int x) {
+        private int leansFrom(int kind, int x, int depth) {
+            if (depth >= DEEPEST) {
+                return 0;
+            }
             switch (kind) {
                 case KNIFE:
                     begins(30);
-                    return -leansFrom(BUILDER, x);
+                    return -leansFrom(BUILDER, x, depth + 1);
                 case CUCKOO:
                 case LADY:
                     begins(41);
-                    return leansFrom(KNIFE, x + 1);
+                    return leansFrom(KNIFE, x + 1, depth + 1);
                 case CHILD:
                     begins(80);
-                    return leansFrom(RAKE, x) + cutsFrom(own, 2);
+                    return leansFrom(RAKE, x, depth + 1) + cutsFrom(own, 2, depth + 1);
                 default:
                     begins(10);
-                    return laysFrom(own, x) * 2;
+                    return laysFrom(own, x, depth + 1) * 2;
             }
         }
 
-        private int cutsFrom(int kind, int x) {
+        private int cutsFrom(int kind, int x, int depth) {
+            if (depth >= DEEPEST) {
+                return 0;
+            }
             switch (kind) {
                 case CUCKOO:
                     begins(40);
-                    return cutsFrom(KNIFE, x) * 3;
+                    return cutsFrom(KNIFE, x, depth + 1) * 3;
                 case LADY:
                     begins(60);
-                    return cutsFrom(CUCKOO, x) - laysFrom(own, 2);
+                    return cutsFrom(CUCKOO, x, depth + 1) - laysFrom(own, 2, depth + 1);
                 default:
                     begins(11);
                     return x ^ number;
             }
         }
 
-        private int tellsFrom(int kind, int x) {
+        private int tellsFrom(int kind, int x, int depth) {
+            if (depth >= DEEPEST) {
+                return 0;
+            }
             switch (kind) {
                 case LEE:
                     begins(50);
-                    return tellsFrom(COW, x) ^ 5;
+                    return tellsFrom(COW, x, depth + 1) ^ 5;
                 case LADY:
                     begins(61);
-                    return tellsFrom(CUCKOO, x) + 1;
+                    return tellsFrom(CUCKOO, x, depth + 1) + 1;
                 default:
                     begins(2);
-                    return leansFrom(own, x) - cutsFrom(own, 1);
+                    return leansFrom(own, x, depth + 1) - cutsFrom(own, 1, depth + 1);
             }
         }
     }
@@ -1683,10 +1706,10 @@ public final class HayRemembers {
 
         private long lowestBits(long v) {
             switch (sort) {
-                case 0: return (byte) v;
-                case 1: return (short) v;
-                case 2: return (int) v;
-                case 3: return v;
+                case BYTES: return (byte) v;
+                case SHORTS: return (short) v;
+                case INTS: return (int) v;
+                case LONGS: return v;
                 default: return v != 0 ? 1 : 0;
             }
         }

@@ -118,7 +118,7 @@ public final class LanguageTest {
         find(code, "\\b(System\\.\\w+)", Set.of("System.arraycopy"));
         find(code, "\\b(Arrays\\.\\w+)", Set.of("Arrays.fill"));
         find(code, "\\b(Math\\.\\w+)", Set.of("Math.min", "Math.max", "Math.abs"));
-        find(code, "\\b(Integer\\.\\w+)", Set.of("Integer.bitCount", "Integer.numberOfLeadingZeros"));
+        find(code, "\\b(Integer\\.\\w+)", Set.of("Integer.bitCount"));
         find(code, "\\b((?:Long|String|Byte|Short|Character)\\.\\w+)", Set.of());
         methods(code);
         made(code);

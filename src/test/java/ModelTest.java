@@ -7,7 +7,7 @@ import java.util.Map;
 
 /** Long runs of drawn calls (by a fixed seed) against a model that works everything out the plainest way. */
 public final class ModelTest {
-    private static final int RUNS = 200, SEARCHES = 2000, CALLS = 512;
+    private static final int RUNS = 50, SEARCHES = 400, CALLS = 512;
     private static int wrong = 0;
 
     public static void main(String[] args) {
@@ -19,6 +19,7 @@ public final class ModelTest {
         int searches = args.length > 2 ? Integer.parseInt(args[2]) : SEARCHES;
         for (int run = first; run < first + searches && wrong < 20; run++) {
             new Run(run).search();
+            new Run(run).letOuts();
         }
         System.out.println(wrong == 0 ? runs + " runs and " + searches + " searches are as the model's" : wrong + " answers are not as the model's");
         if (wrong != 0) {
@@ -75,6 +76,28 @@ public final class ModelTest {
             if (!right) {
                 wrong++;
                 System.out.println("search " + seed + ":" + calls);
+            }
+        }
+
+        /** Ricks that stand barely, so that a mark is let out by many cuts. */
+        void letOuts() {
+            boolean right = same("rick()", x.rick(), model.addRick());
+            int high = draw.from(4, 7);
+            int heavy = draw.below(high);
+            int most = draw.from(1, 3);
+            for (int i = 0; i < high && right; i++) {
+                int hour = i == heavy ? draw.from(5, 9) * 100 + 21 : 100 * draw.from(1, most) + 10 * draw.from(5, 7);
+                right = same("lay(0, " + hour + ")", x.lay(0, hour), model.lay(0, hour));
+            }
+            for (int stand = 1; stand <= 9 && right; stand++) {
+                right = mended(0, 5, stand);
+                for (int k = -1; k <= high && right; k++) {
+                    right = same("letOut(0, 1, " + k + ")", x.letOut(0, 1, k), model.letOut(0, 1, k));
+                }
+            }
+            if (!right) {
+                wrong++;
+                System.out.println("letOuts " + seed + ":" + calls);
             }
         }
 

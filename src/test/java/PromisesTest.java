@@ -90,6 +90,17 @@ public final class PromisesTest {
         taken();
         count();
         constants();
+        otherRicks();
+        layersThatFit();
+        lawsOnTheEdge();
+        orderByLaw();
+        letOutByMany();
+        letOutByLaw();
+        worthByLaw();
+        turnsByLaw();
+        thoughtByLaw();
+        drawnOn();
+        changesOnTheEdge();
         System.out.println(wrong == 0 ? "all promises hold" : wrong + " answers are not as due");
         if (wrong != 0) {
             System.exit(1);
@@ -1237,6 +1248,326 @@ public final class PromisesTest {
         due("FULL", HayRemembers.FULL, -3);
         due("STATE", HayRemembers.STATE, -5);
         due("VOID", HayRemembers.VOID, -2000000000);
+    }
+
+    // ---- the same promises where ricks, laws and shelves meet
+
+    private static void otherRicks() {
+        HayRemembers x = yard(4);
+        for (int rick = 0; rick < 4; rick++) {
+            for (int i = 0; i < 12; i++) {
+                x.lay(rick, 100 * (1 + (rick + i) % 9) + 10 * ((rick + i) % 8) + i % 8);
+            }
+        }
+        for (int rick = 0; rick < 4; rick++) {
+            for (int i = 0; i < 12; i++) {
+                int rl = 16 * rick + i;
+                int force = 1 + (rick + i) % 9;
+                promise = 9;
+                due("keeps(" + rl + ")", x.keeps(rl), force);
+                promise = 20;
+                due("hours(" + rl + ", 99)", x.hours(rl, 99), 99 / (1 + force));
+                promise = 6;
+                due("of(" + rl + ", 0)", x.of(rl, 0), (rick + i) % 8);
+            }
+            for (int i = 12; i < 16; i++) {
+                promise = 9;
+                due("keeps() of no layer", x.keeps(16 * rick + i), BAD);
+                promise = 20;
+                due("hours() of no layer", x.hours(16 * rick + i, 9), BAD);
+                promise = 24;
+                due("cut() of no layer", x.cut(16 * rick + i), BAD);
+            }
+        }
+        promise = 16;
+        // of rick 3 marks 0 .. 3 lie twice, 4 .. 7 once
+        due("likely(31)", x.likely(31, 1, 1), 6);
+        due("likely(37)", x.likely(37, 1, 1), 12);
+        due("likely(41)", x.likely(41, 1, 1), NO_LONG);
+        promise = 11;
+        shelve(x, 0, 0, 59, 58, 32, 16, 59);
+        due("cuts of all ricks", x.winter(0, 24, 1), 6 + 5 + 3 + 2);
+        due("how many", x.winter(0, 24, 0), 4);
+        promise = 24;
+        x.mend(17, 2, 0);
+        x.mend(6, 7, 6);
+        due("cut(59)", x.cut(59), 6);
+        due("its door", x.led(3), 1);
+        x.undo();
+        due("cut(16)", x.cut(16), 2);
+        for (int i = 0; i < 11; i++) {
+            due("rick 0 lies as it was", x.of(i, 1), 1 + i % 9);
+            due("rick 1 came down", x.of(16 + i, 1), 1 + (2 + i) % 9);
+            due("rick 2 lies as it was", x.of(32 + i, 1), 1 + (2 + i) % 9);
+            due("rick 3 lies as it was", x.of(48 + i, 1), 1 + (3 + i) % 9);
+        }
+        promise = 29;
+        due("undo()", x.undo(), 0);
+        due("its change came down, too", x.of(16, 2), 1);
+    }
+
+    private static void layersThatFit() {
+        promise = 4;
+        HayRemembers x = yard(1);
+        shelve(x, 0, 0, 1, 2, 3, 4, 5, 6, 7, 8, 1);
+        due("all nine bytes", x.layers(0, 0, 3), 3);
+        due("its WAY", x.of(2, 0), 7);
+        due("the last three", x.layers(0, 6, 3), 1);
+        promise = 38;
+        shelve(x, 1, 0, 1);
+        x.body(0);
+        x.keep(1, 0);
+        due("a body where a row was", x.shift(0, 0, 1, 0, 1), -12);
+        due("a body where a row was", x.shift(1, 0, 0, 0, 1), -12);
+        promise = 33;
+        x.body(1);
+        x.body(4);
+        x.act(1, 0, 5);
+        due("a cow's trace", x.trace(0), 20);
+        due("a cow's trace", x.trace(1), 1);
+        x.act(2, 3, 5);
+        due("a lee's trace", x.trace(0), 50);
+        due("a lee's trace", x.trace(3), 20);
+        due("a lee's trace", x.trace(5), 11);
+    }
+
+    private static void lawsOnTheEdge() {
+        promise = 8;
+        Object[][] laws = {
+            {"f?((((((1))))))", 1}, {"0?1;((((((2))))))", 2}, {"1&1", 1}, {"(0|3)+1", 2}, {"3+!0", 4}, {"3+!7*2", 3},
+            {"2*-3+9", 3}, {"(0&1|1)*5", 5}, {"-1" + "+1".repeat(59), 9}, {"-9" + "+0".repeat(58) + "+6", 0},
+            {"-9-9" + "+1".repeat(23) + "*1".repeat(35), 5}, {"9999-9993", 6}, {"1<0|2>1&3=3", 1}, {"5-(3-1)-1", 2}};
+        for (Object[] l : laws) {
+            due("keeps() by " + l[0], kept((String) l[0]), (Integer) l[1]);
+        }
+        HayRemembers x = rickOf(900);
+        tell(x, "3");
+        due("a fault at its first byte", tell(x, "x"), -100);
+        due("the law stays", x.keeps(0), 3);
+        due("a fault in its second line", tell(x, "4;x"), -102);
+        due("the law stays", x.keeps(0), 3);
+        due("a longer one, then", tell(x, "0?1;0?2;7"), 1);
+        due("keeps", x.keeps(0), 7);
+        due("a shorter one", tell(x, "f-5"), 1);
+        due("keeps", x.keeps(0), 4);
+    }
+
+    private static void orderByLaw() {
+        promise = 13;
+        HayRemembers x = yard(2);
+        tell(x, "m");
+        shelve(x, 0, 1, 925, 263);
+        due("by MARK", x.order(0, 0, -1), 3);
+        due("its first", x.order(0, 0, 0), 1);
+        x.lay(0, 100);
+        x.mend(0, 3, 50);
+        tell(x, "a");
+        due("none is sold", x.worth(0, 1, -1), 9);
+        due("AGE 0", x.order(0, 1, -1), 0);
+        HayRemembers y = rickOf(920);
+        tell(y, "f-l*3");
+        shelve(y, 0, 1, 120);
+        y.mend(0, 5, 7);
+        due("what lay keeps less under it", y.order(0, 0, -1), 7);
+        y.mend(0, 5, 6);
+        due("it falls", y.order(0, 0, -1), NOT);
+        HayRemembers z = rickOf(940, 140);
+        shelve(z, 0, 1, 100, 300);
+        due("by Y", z.order(0, 0, -1), 7);
+        due("its first", z.order(0, 0, 0), 1);
+        tell(z, "k");
+        // Y 1, then 1 - 2, then 1 - 2 - 3
+        due("by its number", z.order(0, 0, -1), 4);
+        HayRemembers seven = yard(1);
+        tell(seven, "f-l");
+        shelve(seven, 0, 1, 720, 760, 720, 760, 720, 760, 720);
+        due("seven", seven.order(0, 0, -1), 7);
+        due("the first of like ones", seven.order(0, 0, 0), 0);
+        due("then", seven.order(0, 0, 1), 1);
+        due("the last", seven.order(0, 0, 6), 6);
+    }
+
+    private static void letOutByMany() {
+        promise = 14;
+        HayRemembers x = rickOf(160, 160, 160, 925, 160, 160, 160, 160, 160, 160);
+        x.mend(0, 5, 5);
+        // X 4 ahead of it, -5 behind it: no fewer stand
+        int[] cuts = {0, 1, 2, 4, 3};
+        due("five", x.letOut(0, 5, -1), 5);
+        for (int k = 0; k < 5; k++) {
+            due("cut " + k, x.letOut(0, 5, k), cuts[k]);
+        }
+        due("no sixth", x.letOut(0, 5, 5), NOT);
+        x.mend(5, 1, 3);
+        x.mend(9, 1, 2);
+        // 12 lean against it: 7 at least of them have to be gone
+        int[] then = {0, 1, 5, 9, 3};
+        due("five still", x.letOut(0, 5, -1), 5);
+        for (int k = 0; k < 5; k++) {
+            due("cut " + k, x.letOut(0, 5, k), then[k]);
+        }
+        x.mend(0, 5, 6);
+        int[] heavy = {0, 5, 9, 3};
+        due("fewer by the heavy ones", x.letOut(0, 5, -1), 4);
+        for (int k = 0; k < 4; k++) {
+            due("cut " + k, x.letOut(0, 5, k), heavy[k]);
+        }
+    }
+
+    private static void letOutByLaw() {
+        promise = 14;
+        HayRemembers x = rickOf(921, 422, 223);
+        tell(x, "f*k");
+        x.mend(0, 5, 3);
+        // X 4 without the top, 2 without the lowest, and then 0 without the top
+        due("by its number then", x.letOut(0, 3, -1), 2);
+        due("first", x.letOut(0, 3, 0), 0);
+        due("second", x.letOut(0, 3, 1), 2);
+        tell(x, "f-l*4");
+        // 9 - 8, 4 - 4, 2: 1 + 0 + 2; without the top 9 - 4 + 4
+        x.mend(0, 5, 8);
+        due("it falls without the top", x.letOut(0, 3, -1), 2);
+        due("first", x.letOut(0, 3, 0), 0);
+        HayRemembers y = rickOf(141, 900);
+        y.mend(0, 5, 9);
+        due("Y is 9 without it", y.letOut(0, 1, -1), 1);
+        y.mend(0, 5, 8);
+        due("the other first", y.letOut(0, 1, -1), 2);
+        due("first", y.letOut(0, 1, 0), 1);
+        due("second", y.letOut(0, 1, 1), 0);
+    }
+
+    private static void worthByLaw() {
+        promise = 15;
+        HayRemembers x = rickOf(500, 100, 100);
+        tell(x, "0");
+        due("nothing is paid", x.worth(0, 2, -1), 0);
+        due("first", x.worth(0, 2, 0), 0);
+        due("second", x.worth(0, 2, 1), 1);
+        tell(x, "f>1?a;0");
+        x.mend(0, 3, 8);
+        due("it ages", x.worth(0, 2, -1), 9);
+        due("another first", x.worth(0, 2, 0), 1);
+        due("then it", x.worth(0, 2, 1), 0);
+        tell(x, "k*4+l");
+        // 8, 4, 0; what lies under others is paid for them, too, but less: 5, 4, 0; 2, 4, 0
+        due("from the top", x.worth(0, 3, -1), 12);
+        due("first", x.worth(0, 3, 0), 2);
+        due("second", x.worth(0, 3, 1), 1);
+        due("by one", x.worth(0, 1, -1), 8);
+    }
+
+    private static void turnsByLaw() {
+        promise = 22;
+        HayRemembers x = rickOf(120);
+        tell(x, "m|a?0;k");
+        due("1 by the builder, 2 by the wind", x.byTurns(0, 2, 0), 3);
+        due("any WAY is alike", x.byTurns(0, 2, 1), 0);
+        tell(x, "l");
+        due("the wind's keeps nothing", x.byTurns(0, 2, 0), 1);
+        due("the first to the left", x.byTurns(0, 2, 1), 5);
+        tell(x, "f");
+        x.mend(0, 5, 0);
+        due("whether it stands does not matter", x.byTurns(0, 1, 0), 4);
+        due("nothing is laid in deed", x.count(1), 1);
+        x.mend(0, 0, 0);
+        x.mend(0, 1, 9);
+        due("Y is evened", x.byTurns(0, 1, 0), 4);
+        due("by down", x.byTurns(0, 1, 1), 4);
+        HayRemembers y = rickOf(530);
+        due("evened by the last WAY", y.byTurns(0, 1, 0), 0);
+        due("7", y.byTurns(0, 1, 1), 7);
+    }
+
+    private static void thoughtByLaw() {
+        HayRemembers x = rickOf(520, 520);
+        tell(x, "5");
+        promise = 10;
+        due("X", x.lean(0, 0), 10);
+        due("Y", x.lean(0, 1), 0);
+        promise = 17;
+        due("5", x.mean(0, 0), 5);
+        due("by 1", x.mean(0, 1), 1);
+        promise = 19;
+        tell(x, "l?9;f");
+        x.mend(0, 5, 13);
+        // 9 below
+        due("its top is not lain on", x.top(0, 0), 4);
+        due("the greatest", x.top(0, 1), 4);
+        x.mend(0, 5, 10);
+        due("1 alone", x.top(0, 1), 1);
+        x.lean(0, 0);
+        due("what it keeps", x.top(0, 2), 1 + 16 + 32 + 64 + 128);
+        promise = 21;
+        HayRemembers y = rickOf(100, 100);
+        y.mend(0, 3, 99);
+        due("0 hours are less than 1", y.youngest(0, 1), 1);
+        due("0 hours in both", y.youngest(0, 0), 0);
+        due("youngest of one", rickOf(100).youngest(0, 99), 0);
+        y.cut(1);
+        due("one that keeps nothing", y.youngest(0, 99), 0);
+    }
+
+    /** Winters behind one another by one z, by what the document says and no more. */
+    private static void drawnOn() {
+        promise = 23;
+        int[][] forces = {{9, 3, 5}, {1, 8}, {}, {7, 2, 4, 6}};
+        HayRemembers x = yard(4);
+        for (int rick = 0; rick < 4; rick++) {
+            for (int force : forces[rick]) {
+                x.lay(rick, 100 * force + 40);
+            }
+        }
+        x.mend(0, 5, 12);
+        for (int seed = -3; seed <= 3; seed++) {
+            int z = seed * 77777777;
+            int blew = 0;
+            int stood = 0;
+            for (int winter = 0; winter < 7; winter++) {
+                java.util.List<java.util.List<Integer>> left = new java.util.ArrayList<>();
+                for (int[] rick : forces) {
+                    left.add(new java.util.ArrayList<>());
+                    for (int force : rick) {
+                        left.get(left.size() - 1).add(force);
+                    }
+                }
+                for (int cut = 0; cut < 5; cut++) {
+                    z = z * 1103515245 + 12345;
+                    java.util.List<Integer> rick = left.get((z >>> 8) % 4);
+                    blew += rick.isEmpty() ? 0 : rick.remove((z >>> 16) % rick.size());
+                }
+                int sum = 0;
+                for (int force : left.get(3)) {
+                    sum += force;
+                }
+                stood += sum <= 12 ? 1 : 0;
+            }
+            due("FORCE by " + seed, x.drawn(seed * 77777777, 705, -1), blew);
+            due("ends by " + seed, x.drawn(seed * 77777777, 705, 3), stood);
+        }
+    }
+
+    private static void changesOnTheEdge() {
+        promise = 29;
+        HayRemembers x = rickOf(500);
+        x.mend(0, 4, 1);
+        x.mend(0, 5, 30);
+        for (int i = 0; i < 39; i++) {
+            x.mend(0, 3, 1 + i % 2);
+        }
+        due("the first is forgotten", x.count(3), 40);
+        for (int i = 0; i < 40; i++) {
+            x.undo();
+        }
+        due("COLD stays", x.of(0, 4), 1);
+        due("STAND is", x.of(0, 5), 20);
+        due("AGE is", x.of(0, 3), 0);
+        promise = 30;
+        for (int i = 39; i >= 0; i--) {
+            due("redo()", x.redo(), i);
+        }
+        due("STAND is", x.of(0, 5), 30);
+        due("AGE is", x.of(0, 3), 1);
     }
 
     // ---- the kinds, as the document tells them, in Java's own classes
