@@ -7,7 +7,8 @@ import java.util.Map;
 
 /** Long runs of drawn calls (by a fixed seed) against a model that works everything out the plainest way. */
 public final class ModelTest {
-    private static final int RUNS = 50, SEARCHES = 400, CALLS = 512;
+    // an object is used for 512 calls at most, and one step of a run makes up to 130
+    private static final int RUNS = 300, SEARCHES = 400, CALLS = 512, DEAREST = 130;
     private static int wrong = 0;
 
     public static void main(String[] args) {
@@ -33,6 +34,7 @@ public final class ModelTest {
         final HayRemembers x = new HayRemembers();
         final Model model = new Model();
         final StringBuilder calls = new StringBuilder();
+        int asked = 0;
 
         Run(int seed) {
             this.seed = seed;
@@ -106,19 +108,17 @@ public final class ModelTest {
         }
 
         void play() {
-            int made = 0;
-            int most = seed % 3 == 0 ? 90 : CALLS;
-            while (made < most) {
-                made++;
+            while (asked + DEAREST <= CALLS) {
                 if (!one()) {
                     wrong++;
-                    System.out.println("run " + seed + ", call " + made + ":" + calls.substring(calls.lastIndexOf("\n")));
+                    System.out.println("run " + seed + ", call " + asked + ":" + calls.substring(calls.lastIndexOf("\n")));
                     return;
                 }
             }
         }
 
         boolean same(String call, long got, long want) {
+            asked++;
             calls.append("\n").append(call).append(" answered ").append(got).append(", the model ").append(want);
             return got == want;
         }
@@ -374,6 +374,7 @@ public final class ModelTest {
             List<Layer> layers = model.rick(rick);
             if (layers != null && shelf >= 0 && shelf < 6 && draw.odd(2)) {
                 int n = Math.max(0, layers.size() - draw.below(2) + draw.below(2));
+                asked += 1 + n;
                 x.row(shelf, 0, n);
                 model.row(shelf, 0, n);
                 for (int i = 0; i < n; i++) {
@@ -1139,11 +1140,10 @@ public final class ModelTest {
             if (body < 0 || body >= kinds.size() || act < 0 || act > 3) {
                 return 0;
             }
-            Builder[] all = {new Builder(), new Cow(), new Knife(), new Cuckoo(), new Lee(), new Lady(), new Rake(), new Child()};
-            Builder b = all[kinds.get(body)];
-            b.n = body;
-            b.ran = ran;
-            return act == 0 ? b.lays(v) : act == 1 ? b.leans(v) : act == 2 ? b.cuts(v) : b.tells(v);
+            Kinds.Builder b = Kinds.make(kinds.get(body), body);
+            int answer = b.perform(act, v);
+            ran.addAll(b.ran);
+            return answer;
         }
 
         int trace(int i) {
@@ -1351,46 +1351,5 @@ public final class ModelTest {
                 default: return b == 0 ? 0 : (int) ((long) a % b);
             }
         }
-    }
-
-    private static class Builder {
-        List<Integer> ran;
-        int n;
-
-        int lays(int x) { ran.add(1); return x + n; }
-        int leans(int x) { ran.add(10); return lays(x) * 2; }
-        int cuts(int x) { ran.add(11); return x ^ n; }
-        int tells(int x) { ran.add(2); return leans(x) - cuts(1); }
-    }
-
-    private static class Cow extends Builder {
-        int lays(int x) { ran.add(20); return super.lays(x) + 3; }
-    }
-
-    private static class Knife extends Builder {
-        int leans(int x) { ran.add(30); return -super.leans(x); }
-    }
-
-    private static class Cuckoo extends Knife {
-        int cuts(int x) { ran.add(40); return super.cuts(x) * 3; }
-        int leans(int x) { ran.add(41); return super.leans(x + 1); }
-    }
-
-    private static class Lee extends Cow {
-        int tells(int x) { ran.add(50); return super.tells(x) ^ 5; }
-    }
-
-    private static class Lady extends Cuckoo {
-        int cuts(int x) { ran.add(60); return super.cuts(x) - lays(2); }
-        int tells(int x) { ran.add(61); return super.tells(x) + 1; }
-    }
-
-    private static class Rake extends Builder {
-        int lays(int x) { ran.add(70); return super.lays(x) * 2; }
-    }
-
-    private static class Child extends Rake {
-        int leans(int x) { ran.add(80); return super.leans(x) + cuts(2); }
-        int lays(int x) { ran.add(81); return super.lays(x) - 1; }
     }
 }

@@ -1024,13 +1024,11 @@ public final class PromisesTest {
         for (int i = 0; i < 16; i++) {
             x.body(i / 2);
         }
-        Yard8[] models = Yard8.all();
         int[] numbers = {0, 1, -1, 5, 77, Integer.MAX_VALUE, Integer.MIN_VALUE, 1431655765};
         for (int i = 0; i < 16; i++) {
             for (int act = 0; act <= 3; act++) {
                 int v = numbers[(i + act) % numbers.length];
-                Yard8 model = models[i / 2];
-                model.n = i;
+                Kinds.Builder model = Kinds.make(i / 2, i);
                 due("act(" + i + ", " + act + ", " + v + ")", x.act(i, act, v), model.perform(act, v));
                 due("how many ran", x.count(5), model.ran.size());
                 due("the last that ran", x.trace(model.ran.size() - 1), model.ran.get(model.ran.size() - 1));
@@ -1520,30 +1518,9 @@ public final class PromisesTest {
         }
         x.mend(0, 5, 12);
         for (int seed = -3; seed <= 3; seed++) {
-            int z = seed * 77777777;
-            int blew = 0;
-            int stood = 0;
-            for (int winter = 0; winter < 7; winter++) {
-                java.util.List<java.util.List<Integer>> left = new java.util.ArrayList<>();
-                for (int[] rick : forces) {
-                    left.add(new java.util.ArrayList<>());
-                    for (int force : rick) {
-                        left.get(left.size() - 1).add(force);
-                    }
-                }
-                for (int cut = 0; cut < 5; cut++) {
-                    z = z * 1103515245 + 12345;
-                    java.util.List<Integer> rick = left.get((z >>> 8) % 4);
-                    blew += rick.isEmpty() ? 0 : rick.remove((z >>> 16) % rick.size());
-                }
-                int sum = 0;
-                for (int force : left.get(3)) {
-                    sum += force;
-                }
-                stood += sum <= 12 ? 1 : 0;
-            }
-            due("FORCE by " + seed, x.drawn(seed * 77777777, 705, -1), blew);
-            due("ends by " + seed, x.drawn(seed * 77777777, 705, 3), stood);
+            Winters winters = new Winters(forces, seed * 77777777, 7, 5, 3, 12);
+            due("FORCE by " + seed, x.drawn(seed * 77777777, 705, -1), winters.blew);
+            due("ends by " + seed, x.drawn(seed * 77777777, 705, 3), winters.stood);
         }
     }
 
@@ -1568,68 +1545,5 @@ public final class PromisesTest {
         }
         due("STAND is", x.of(0, 5), 30);
         due("AGE is", x.of(0, 3), 1);
-    }
-
-    // ---- the kinds, as the document tells them, in Java's own classes
-
-    private abstract static class Yard8 {
-        final java.util.ArrayList<Integer> ran = new java.util.ArrayList<>();
-        int n;
-
-        abstract int lays(int x);
-
-        abstract int leans(int x);
-
-        abstract int cuts(int x);
-
-        abstract int tells(int x);
-
-        int perform(int act, int x) {
-            ran.clear();
-            return act == 0 ? lays(x) : act == 1 ? leans(x) : act == 2 ? cuts(x) : tells(x);
-        }
-
-        static Yard8[] all() {
-            return new Yard8[] {new Builder(), new Cow(), new Knife(), new Cuckoo(), new Lee(), new Lady(),
-                new Rake(), new Child()};
-        }
-    }
-
-    private static class Builder extends Yard8 {
-        int lays(int x) { ran.add(1); return x + n; }
-        int leans(int x) { ran.add(10); return lays(x) * 2; }
-        int cuts(int x) { ran.add(11); return x ^ n; }
-        int tells(int x) { ran.add(2); return leans(x) - cuts(1); }
-    }
-
-    private static class Cow extends Builder {
-        int lays(int x) { ran.add(20); return super.lays(x) + 3; }
-    }
-
-    private static class Knife extends Builder {
-        int leans(int x) { ran.add(30); return -super.leans(x); }
-    }
-
-    private static class Cuckoo extends Knife {
-        int cuts(int x) { ran.add(40); return super.cuts(x) * 3; }
-        int leans(int x) { ran.add(41); return super.leans(x + 1); }
-    }
-
-    private static class Lee extends Cow {
-        int tells(int x) { ran.add(50); return super.tells(x) ^ 5; }
-    }
-
-    private static class Lady extends Cuckoo {
-        int cuts(int x) { ran.add(60); return super.cuts(x) - lays(2); }
-        int tells(int x) { ran.add(61); return super.tells(x) + 1; }
-    }
-
-    private static class Rake extends Builder {
-        int lays(int x) { ran.add(70); return super.lays(x) * 2; }
-    }
-
-    private static class Child extends Rake {
-        int leans(int x) { ran.add(80); return super.leans(x) + cuts(2); }
-        int lays(int x) { ran.add(81); return super.lays(x) - 1; }
     }
 }
