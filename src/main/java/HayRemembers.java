@@ -298,7 +298,7 @@ public final class HayRemembers {
         if (!hasLayerAt(rl) || n < 0 || n > MOST_HOURS) {
             return BAD;
         }
-        return n / (1 + now.kept(law, rl / 16, rl % 16));
+        return inside(n, now.kept(law, rl / 16, rl % 16));
     }
 
     public int youngest(int rick, int n) {
@@ -308,9 +308,9 @@ public final class HayRemembers {
         int best = NOT;
         int least = MOST_HOURS + 1;
         for (int i = 0; i < now.height(rick); i++) {
-            int inside = n / (1 + now.kept(law, rick, i));
-            if (inside < least) {
-                least = inside;
+            int older = inside(n, now.kept(law, rick, i));
+            if (older < least) {
+                least = older;
                 best = i;
             }
         }
@@ -627,6 +627,11 @@ public final class HayRemembers {
         return bits;
     }
 
+    /** How many of n hours pass inside, where so much is kept. */
+    private static int inside(int n, int kept) {
+        return kept > 0 ? n / (1 + kept) : n;
+    }
+
     /** How many ways there are to choose k of n. */
     private static long choices(int n, int k) {
         if (k > n) {
@@ -699,10 +704,10 @@ public final class HayRemembers {
         Yard() {
         }
 
+        /** All lies as on another yard; names are not taken along, as all layers are new ones then. */
         void become(Yard other) {
             ricks = other.ricks;
             System.arraycopy(other.numbers, 0, numbers, 0, numbers.length);
-            System.arraycopy(other.names, 0, names, 0, names.length);
             System.arraycopy(other.heights, 0, heights, 0, heights.length);
         }
 

@@ -229,6 +229,7 @@ public final class DeedEdgesTest extends Sentences {
             due("none more of " + n, x.redo(), STATE);
             due("AGE of all " + n, x.of(0, AGE), n);
         }
+        fortyOfAllKinds();
         HayRemembers x = rickOf(500);
         for (int i = 1; i <= 40; i++) {
             x.mend(0, AGE, i);
@@ -241,6 +242,24 @@ public final class DeedEdgesTest extends Sentences {
         due("none to be DONE AGAIN", x.redo(), STATE);
         due("UNDONE", x.undo(), 35);
         due("AGE", x.of(0, AGE), 35);
+    }
+
+    /** Behind forty more, what was told first stays, whatever it was told of. */
+    private static void fortyOfAllKinds() {
+        int[] was = {2, 5, 1, 0, 0, 20, 0, 9};
+        for (int first = WAY; first <= DOOR; first++) {
+            HayRemembers x = rickOf(521);
+            x.mend(0, first, 6);
+            for (int i = 0; i < 40; i++) {
+                x.mend(0, (first + 1 + i % 7) % 8, 3 + i / 7 % 2);
+            }
+            for (int i = 39; i >= 0; i--) {
+                due("UNDONE", x.undo(), i);
+            }
+            for (int what = WAY; what <= DOOR; what++) {
+                due("of " + what, x.of(0, what), what == first ? 6 : was[what]);
+            }
+        }
     }
 
     private static void changesOfLayers() {
@@ -264,6 +283,7 @@ public final class DeedEdgesTest extends Sentences {
         for (int i = 0; i <= 2; i++) {
             due("FORCE of " + i, x.of(i, FORCE), 5 + (i == 1 ? 4 : 0) - (i == 2 ? 2 : 0));
         }
+        changesOfAllLayers();
         HayRemembers y = rickOf(500);
         y.mend(0, FORCE, 9);
         y.image();
@@ -279,6 +299,27 @@ public final class DeedEdgesTest extends Sentences {
         y.mend(0, FORCE, 2);
         due("of the new one", y.undo(), 2);
         due("it is seen", y.of(0, FORCE), 9);
+    }
+
+    private static void changesOfAllLayers() {
+        for (int changed = 0; changed < 48; changed++) {
+            HayRemembers x = yard(4);
+            for (int i = 0; i < 48; i++) {
+                x.lay(i / 12, 500);
+            }
+            x.mend(16 * (changed / 12) + changed % 12, FORCE, 9);
+            dueForces(x, changed, 9);
+            x.undo();
+            dueForces(x, changed, 5);
+            x.redo();
+            dueForces(x, changed, 9);
+        }
+    }
+
+    private static void dueForces(HayRemembers x, int changed, int force) {
+        for (int i = 0; i < 48; i++) {
+            due("FORCE of " + i, x.of(16 * (i / 12) + i % 12, FORCE), i == changed ? force : 5);
+        }
     }
 
     private static void deedsAreNone() {

@@ -41,6 +41,7 @@ public final class PromisesEdgesTest extends Sentences {
         shift();
         taken();
         count();
+        lastCall();
         finish();
     }
 
@@ -87,6 +88,35 @@ public final class PromisesEdgesTest extends Sentences {
             }
             return x;
         }, call);
+    }
+
+    private static void lastCall() {
+        open("and each hour and knife led.", "## The public face");
+        says("An object is used for at most 512 calls after it has been made; what later calls answer is free.");
+        HayRemembers days = new HayRemembers();
+        for (int i = 1; i <= 511; i++) {
+            due("day()", days.day(), Math.min(99, i));
+        }
+        due("the 512th, of days", days.led(4), 511);
+        HayRemembers layers = yard(1);
+        for (int i = 1; i <= 510; i++) {
+            due("lay(), cut()", i % 2 == 1 ? layers.lay(0, 900) : layers.cut(0), i % 2 == 1 ? 0 : 9);
+        }
+        due("the 512th, of LAYERS", layers.led(2), 255 * 9);
+        // a yard of one LAYER has had two calls
+        HayRemembers images = rickOf(500);
+        HayRemembers changes = rickOf(500);
+        for (int i = 1; i <= 509; i++) {
+            due("image(), back()", i % 2 == 1 ? images.image() : images.back(), 0);
+            due("mend()", changes.mend(0, AGE, i % 2), 1 - i % 2);
+        }
+        due("the 512th, of an IMAGE", images.of(0, FORCE), 5);
+        due("the 512th, of CHANGES", changes.undo(), 39);
+        HayRemembers bodies = new HayRemembers();
+        for (int i = 1; i <= 511; i++) {
+            due("body()", bodies.body(5), i <= 50 ? i - 1 : FULL);
+        }
+        due("the 512th, of BODIES", bodies.act(49, 2, 1), (1 ^ 49) * 3 - 51);
     }
 
     private static void newObject() {

@@ -129,6 +129,9 @@ public final class RicksEdgesTest extends Sentences {
         due("the 121st", x.feed('1'), FULL);
         due("law() of 120", x.law(), 1);
         due("by all 120, and no more", x.keeps(0), 7);
+        // each byte of this one is a step of its own, and its last line counts
+        dueKept("0?7;".repeat(29) + "!!!0", 1);
+        dueKept("0?7;".repeat(29) + "9--0", 9);
         due("law() of none", x.law(), -100);
         due("THE LAW stays", x.keeps(0), 7);
         due("one byte", tell(x, "3"), 1);
@@ -379,6 +382,12 @@ public final class RicksEdgesTest extends Sentences {
         dueKept("!0", 1);
         dueKept("!-1", 0);
         dueKept("!5", 0);
+        for (String truth : new String[] {"7<5", "5=7", "5>7", "3&0", "0&3", "0&0", "0|0", "!3"}) {
+            dueKept("(" + truth + ")+4", 4);
+        }
+        for (String truth : new String[] {"5<7", "5=5", "7>5", "3&3", "0|3", "3|0", "3|3", "!0"}) {
+            dueKept("(" + truth + ")+4", 5);
+        }
         says("all is worked out");
         dueKept("0&1/0", 0);
         dueKept("1|1%0", 1);
@@ -459,6 +468,13 @@ public final class RicksEdgesTest extends Sentences {
         HayRemembers x = rickOf(910, 950, 870, 830);
         due("X of all ways", x.lean(0, 0), 0);
         due("Y of all ways", x.lean(0, 1), 0);
+        // what does not lie there keeps nothing, whatever the law says of it
+        HayRemembers ruled = ruled(layOn(layOn(yard(2), 0, 120, 120), 1, 120), "5");
+        due("X of two", ruled.lean(0, 0), 10);
+        due("Y of two", ruled.lean(0, 1), 0);
+        due("X of one", ruled.lean(1, 0), 5);
+        due("X of none", ruled(yard(1), "5").lean(0, 0), 0);
+        due("Y of none", ruled(yard(1), "5").lean(0, 1), 0);
     }
 
     private static void stands() {
@@ -523,6 +539,17 @@ public final class RicksEdgesTest extends Sentences {
                 y.cut(0);
                 due("WAY " + way + ", DOOR of " + other, y.led(3), way == other ? 1 : 0);
             }
+        }
+        // of the RICK and the LAYER that are told, and of no others
+        HayRemembers many = mend(yard(4), 5, DOOR, 4);
+        for (int rick = 0; rick <= 3; rick++) {
+            layOn(many, rick, 410, 420, 450, 440);
+        }
+        for (int rick = 3; rick >= 0; rick--) {
+            due("it BLOWS", many.cut(16 * rick + 1), 4);
+            due("another WAY", many.led(3), 3 - rick);
+            due("it BLOWS", many.cut(16 * rick + 1), 4);
+            due("its WAY", many.led(3), 4 - rick);
         }
         HayRemembers nothing = mend(mend(rickOf(100), 0, AGE, 99), 0, DOOR, 1);
         due("it keeps nothing", nothing.cut(0), 0);

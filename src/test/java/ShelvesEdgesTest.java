@@ -37,6 +37,15 @@ public final class ShelvesEdgesTest extends Sentences {
         says("0 BUILDER; 1 COW under BUILDER; 2 KNIFE under BUILDER; 3 CUCKOO under KNIFE; 4 LEE under COW; "
             + "5 LADY under CUCKOO; 6 RAKE under BUILDER; 7 CHILD under RAKE");
         takes("KIND", 0, 7, BAD, HayRemembers::new, (y, v) -> y.body(v));
+        HayRemembers two = new HayRemembers();
+        two.body(3);
+        two.body(7);
+        two.keep(0, 1);
+        two.keep(1, 0);
+        due("the second body", two.taken(0, 0), 7);
+        due("the first body", two.taken(1, 0), 3);
+        two.keep(1, 1);
+        due("the second on both", two.taken(1, 6), 7);
         int[] above = {-1, 0, 0, 2, 1, 3, 0, 6};
         for (int kind = 0; kind <= 7; kind++) {
             HayRemembers y = new HayRemembers();

@@ -140,6 +140,9 @@ public final class ThoughtEdgesTest extends Sentences {
                 due(hours + " HOURS on " + layers, want == GREATEST && got >= 0 ? want : got, want);
             }
         }
+        // Y 5 ahead of them, 4 behind the first, -2 behind the last
+        due("7 on 5", hoursFor(5, 7).order(0, 0, -1), 4);
+        due("6 on 6", hoursFor(6, 6).order(0, 0, -1), 5);
         due("STATE ahead of what has no k-th", hoursFor(0, 8).order(0, 0, 99), STATE);
         due("STATE ahead of what falls", mend(hoursFor(0, 8), 0, STAND, 0).order(0, 0, -1), STATE);
         says("laid on a RICK in an order, AGE 0");
@@ -148,6 +151,15 @@ public final class ThoughtEdgesTest extends Sentences {
         due("HOURS are new, what lay is not", x.order(0, 0, -1), 7);
         x.mend(0, STAND, 6);
         due("what lay falls", x.order(0, 0, -1), NOT);
+        // what an older RICK had at that place is not theirs
+        HayRemembers old = ruled(layOn(layOn(yard(2), 0, 120, 120, 120), 1, 120), "a+m");
+        for (int i = 0; i <= 2; i++) {
+            old.mend(i, AGE, 9);
+        }
+        due("WORTH of the older", old.worth(0, 3, -1), 27);
+        due("HOURS by MARK alone", shelve(old, 0, SHORTS, 123, 124).order(0, 1, -1), 7);
+        due("the first of like ones", old.order(0, 1, 0), 0);
+        due("HOURS without one", shelve(old, 0, SHORTS, 120, 120).order(0, 1, -1), 0);
     }
 
     private static void layStanding() {
@@ -180,6 +192,14 @@ public final class ThoughtEdgesTest extends Sentences {
         due("its first", x.order(0, 0, 0), 1);
         // X 6, then Y 8 with X 6: the greater, not their sum
         due("the greater of both", shelve(yard(1), 0, SHORTS, 620, 840).order(0, 0, -1), 8);
+        HayRemembers under = ruled(shelve(rickOf(920), 0, SHORTS, 120), "f-l*3");
+        due("what lay is under one", under.order(0, 0, -1), 6 + 1);
+        due("what lay is under two", shelve(under, 0, SHORTS, 120, 120).order(0, 0, -1), 7);
+        HayRemembers numbered = ruled(shelve(rickOf(140), 0, SHORTS, 520, 560), "k*3");
+        due("by its number", numbered.order(0, 0, -1), 3);
+        HayRemembers each = ruled(shelve(yard(1), 0, SHORTS, 920, 160), "f-l*9");
+        due("only the top keeps any", each.order(0, 0, -1), 9);
+        due("9 last is like 9 first", each.order(0, 0, 0), 0);
         says("the k-th HOUR's place (of like ones the first by numbers, one behind the other)");
         HayRemembers like = shelve(yard(1), 0, SHORTS, 100, 100, 100, 100, 100, 100, 100);
         for (int k = 0; k <= 6; k++) {
@@ -244,6 +264,20 @@ public final class ThoughtEdgesTest extends Sentences {
         due("it STANDS behind the first", y.letOut(0, 5, -1), 1);
         y.mend(0, STAND, 8);
         due("9 by 8", y.letOut(0, 5, -1), NOT);
+        HayRemembers l = mend(ruled(rickOf(921, 960, 120), "f-l*9"), 0, STAND, 8);
+        due("the top alone keeps any", l.letOut(0, 1, -1), 1);
+        l.mend(2, FORCE, 9);
+        due("the top falls", l.letOut(0, 1, -1), NOT);
+        l.mend(2, FORCE, 1);
+        l.mend(2, MARK, 2);
+        due("what is below goes ahead of the top", l.letOut(0, 2, -1), 3);
+        due("the lowest first", l.letOut(0, 2, 0), 0);
+        HayRemembers days = mend(mend(rickOf(960, 925, 960), 0, STAND, 8), 1, AGE, 9);
+        days.mend(0, AGE, 10);
+        days.mend(2, AGE, 19);
+        due("no days pass", days.letOut(0, 5, -1), 2);
+        days.mend(2, AGE, 9);
+        due("9 by 8, as no day passes", days.letOut(0, 5, 0), 2);
         HayRemembers z = mend(rickOf(960, 925, 960), 0, STAND, 9);
         due("two CUTS", z.letOut(0, 5, -1), 2);
         due("the first of like ones", z.letOut(0, 5, 0), 0);
@@ -273,7 +307,12 @@ public final class ThoughtEdgesTest extends Sentences {
         for (int t = 0; t <= 4; t++) {
             due("the most of " + t, x.worth(0, t, -1), most[t]);
         }
-        due("nothing is kept", ruled(rickOf(900), "0").worth(0, 1, -1), 0);
+        HayRemembers last = rickOf(800, 900, 900);
+        due("the two that are last", last.worth(0, 2, -1), 18);
+        due("their first", last.worth(0, 2, 0), 1);
+        due("nothing is kept", ruled(last, "0").worth(0, 2, -1), 0);
+        due("the first of like ones", last.worth(0, 2, 0), 0);
+        due("the second of like ones", last.worth(0, 2, 1), 1);
         says("the LAYER of the k-th (as its number is now; of like ones the first by numbers)");
         for (int k = 0; k <= 3; k++) {
             due("like ones, k " + k, high(12, 900).worth(0, 4, k), k);
@@ -348,6 +387,10 @@ public final class ThoughtEdgesTest extends Sentences {
         x.lay(0, 100);
         due("100 by 12, above", x.mean(0, 0), 25);
         due("100 by 12, below", x.mean(0, 1), 3);
+        due("by a law, above", ruled(high(4, 900), "7").mean(0, 0), 7);
+        due("by a law, below", ruled(high(4, 900), "7").mean(0, 1), 1);
+        due("of none by a law, above", ruled(yard(1), "7").mean(0, 0), 0);
+        due("of none by a law, below", ruled(yard(1), "7").mean(0, 1), 1);
         HayRemembers nothing = ruled(high(12, 900), "0");
         due("nothing is kept, above", nothing.mean(0, 0), 0);
         due("nothing is kept, below", nothing.mean(0, 1), 1);
@@ -401,6 +444,9 @@ public final class ThoughtEdgesTest extends Sentences {
         x.mend(0, WAY, 2);
         due("none", x.top(0, 0), 0);
         due("no greatest", x.top(0, 1), NOT);
+        HayRemembers ruled = mend(ruled(rickOf(120, 120), "l|k=0?9;f>5?0;f"), 0, STAND, 12);
+        due("1, 2, 3 and 6 .. 9, with none on it", ruled.top(0, 0), 7);
+        due("9 of them", ruled.top(0, 1), 9);
         due("no LAYERS", yard(1).top(0, 0), 0);
         due("no LAYERS, no greatest", yard(1).top(0, 1), NOT);
     }
@@ -427,6 +473,13 @@ public final class ThoughtEdgesTest extends Sentences {
                 due(n + " hours in " + force, x.hours(0, n), n / (1 + force));
             }
         }
+        HayRemembers many = yard(4);
+        for (int rl = 0; rl < 12; rl++) {
+            many.lay(rl / 3, 100 * (1 + (rl + rl / 3) % 9));
+        }
+        for (int rl = 0; rl < 12; rl++) {
+            due("99 hours in " + rl, many.hours(16 * (rl / 3) + rl % 3, 99), 99 / (2 + (rl + rl / 3) % 9));
+        }
         says("the LAYER in which one grows least older (of like ones the lowest)");
         due("of twelve like ones", high(12, 500).youngest(0, 99), 0);
         due("the top", rickOf(100, 200, 900).youngest(0, 99), 2);
@@ -448,6 +501,11 @@ public final class ThoughtEdgesTest extends Sentences {
         due("MARK 0", ruled(yard(1), "m?9;2").byTurns(0, 1, 0), 2);
         due("AGE 0", ruled(yard(1), "a?9;3").byTurns(0, 1, 0), 3);
         due("its FORCE by a law", ruled(yard(1), "f=5?1;9").byTurns(0, 1, 0), 1);
+        due("its number by a law", ruled(rickOf(100, 100, 100), "k=3?7;0").byTurns(0, 1, 0), 7);
+        due("numbers by a law", ruled(yard(1), "k*3").byTurns(0, 3, 0), 3);
+        due("what lies on it by a law", ruled(yard(1), "l*3").byTurns(0, 3, 0), 6 + 3);
+        due("what lies on what lay", ruled(rickOf(120), "k?0;l").byTurns(0, 4, 0), 4);
+        due("AGE of what lay", mend(rickOf(920), 0, AGE, 10).byTurns(0, 1, 0), 3);
         says("NOT: there is no room");
         for (int high = 0; high <= 12; high++) {
             for (int n = 1; n <= 4; n++) {
