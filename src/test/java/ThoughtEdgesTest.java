@@ -291,6 +291,12 @@ public final class ThoughtEdgesTest extends Sentences {
         due("none stands throughout", mend(rickOf(101, 120), 0, STAND, 0).letOut(0, 1, -1), NOT);
         due("the only one", mend(rickOf(101), 0, STAND, 0).letOut(0, 1, -1), 1);
         due("a full RICK without it", high(12, 100).letOut(0, 7, 0), NOT);
+        // what was found on another RICK is not found here
+        HayRemembers x = layOn(layOn(yard(2), 0, 960, 925, 960), 1, 960, 965, 960);
+        x.mend(0, STAND, 9);
+        due("by two CUTS", x.letOut(0, 5, -1), 2);
+        due("each first CUT falls", x.letOut(1, 5, -1), NOT);
+        due("by two CUTS again", x.letOut(0, 5, 1), 1);
     }
 
     private static void worth() {
