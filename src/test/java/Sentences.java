@@ -59,6 +59,11 @@ abstract class Sentences {
         named = new boolean[part.length()];
     }
 
+    /** What stands in the part that is looked at; nothing, if the document is not there. */
+    static String lookedAt() {
+        return part;
+    }
+
     static void promise(int n) {
         open("## Promise " + n + ": ", n < 40 ? "## Promise " + (n + 1) + ": " : "## Not promised");
     }
